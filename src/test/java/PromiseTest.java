@@ -202,6 +202,7 @@ public final class PromiseTest {
         long before = shown(x);
         is("7 fault", Due.read(x, "l4,0,0;f0;q"), -1000110);
         is("7 all stays", shown(x), before);
+        is("7 foretold ahead of the next", x.written(9, 3), 11);
         is("7 another", Due.read(x, "l12,12,60;f9;f09;f00;o11;"), 1);
         is("7 watch", x.count(3), 0);
         is("7 no act", x.count(6), 0);
@@ -587,6 +588,7 @@ public final class PromiseTest {
         z.move(0, 10);
         is("22 60 at most", z.pours(0, 0), 5);
         is("22 59 then", z.pours(0, 1), NONE);
+        is("22 all of it", Due.lit("l12,0,0;f0;g10;").pours(0, 0), 60);
     }
 
     private static void lift23() {
@@ -609,6 +611,9 @@ public final class PromiseTest {
         is("23 ship by ship", z.lift(3, 1), 0);
         z.eyes(0);
         is("23 ship by ship, watch by watch", z.lift(3, 1), 6);
+        LampLogs w = Due.lit("l6,2,9;f0;f4;g0;");
+        is("23 the second", w.lift(1, 0), 1);
+        is("23 the second", w.lift(1, 1), 0);
     }
 
     private static void sent24() {
@@ -646,6 +651,7 @@ public final class PromiseTest {
         is("25 above", x.share(0, 1000), BAD);
         shares(Due.lit("l4,0,0;f0;f1;f1;f0;f1;s0;"), 5, 0, 2, 2, 0, 1);
         shares(Due.lit("l4,0,0;f1;f9;s0;"), 1, 1, 0);
+        shares(Due.lit("l4,0,0;f1;f0;s0;"), 7, 7, 0);
         shares(Due.lit("l4,0,0;f0;f0;s0;"), 7, 0, 0);
     }
 
@@ -670,6 +676,10 @@ public final class PromiseTest {
         for (int n = 0; n <= 4; n++) {
             is("26 the one twice", z.byTurns(n, 1), due[n]);
         }
+        is("26 ten are too few", Due.lit("l12,0,0;f0;s6;").byTurns(3, 1), 0);
+        is("26 five are too few", Due.lit("l12,0,5;f0;s6;").byTurns(2, 1), 0);
+        is("26 eyes get no better", Due.lit("l6,1,0;f0;g1;").byTurns(2, 1), 1);
+        is("26 eyes get no better than none", Due.lit("l6,0,0;f0;s2;").byTurns(2, 1), 1);
     }
 
     private static LampLogs logged(int... log) {
@@ -688,6 +698,8 @@ public final class PromiseTest {
         is("27 kinds", x.who(0, 0, 2, 1, 3), 6);
         is("27 cells", x.who(0, 1, 2, 1, 3), 56);
         is("27 kinds by one", x.who(0, 0, 2, 1, 1), 30);
+        is("27 cells by one", x.who(0, 1, 2, 1, 1), 255);
+        is("27 a boat", logged(0).who(0, 0, 2, 1, 1), 32);
         is("27 no kind", x.who(0, 0, 2, 0, 1), 0);
         is("27 status", x.status(), 0);
         is("27 nothing changes", shown(x), before);
@@ -740,6 +752,10 @@ public final class PromiseTest {
         is("29 eyes", x.sights(0, 0, 2, 1, 3), 124);
         is("29 oils", x.sights(0, 1, 2, 1, 3), 58);
         is("29 least", x.sights(0, 2, 2, 1, 3), 3);
+        is("29 the best eyes", x.sights(0, 0, 2, 1, 1), 8188);
+        is("29 the worst eyes", logged(2).sights(0, 0, 2, 1, 1), 3);
+        is("29 two oils", logged(1).sights(0, 1, 2, 1, 1), 2);
+        is("29 no oil", logged(1).sights(0, 2, 2, 1, 1), 0);
         is("29 no eyes", x.sights(0, 0, 2, 0, 1), 0);
         is("29 no oil", x.sights(0, 1, 2, 0, 1), 0);
         is("29 NONE", x.sights(0, 2, 2, 0, 1), NONE);
