@@ -122,6 +122,12 @@ final class ForetoldSentences {
                 x.still(due[k][what], "written", counts[k], what);
             }
         }
+        x.play("watches", 2);
+        x.play("eyes", 1);
+        x.play("pour", 1);
+        x.still(3, "written", 0, 0);
+        x.still(2, "written", 1, 0);
+        x.still(58, "written", 1, 3);
         Run six = Run.lit("l4,0,9;f0;g1;g1;g1;g1;g1;g1;");
         six.still(0, "written", 1, 0);
         six.still(63, "written", 1, 1);
@@ -295,6 +301,8 @@ final class ForetoldSentences {
         lifts(last, 5, 5, 0);
         // Now they DIFFER, but behind the WATCH no more.
         lifts(Run.lit("l4,0,9;f0;s1;"), 1, 0, 0);
+        // The keeper just sees the gull, if THICK is 0 and not 1.
+        lifts(Run.lit("l12,2,60;f0;f4;g1;"), 1, 1, 0);
         // A FOG that hides the gull from both is better left.
         lifts(Run.lit("l4,4,0;f9;f0;g1;"), 2, 1, 1);
     }
@@ -366,6 +374,8 @@ final class ForetoldSentences {
         Doc.term("SHARE of n (0 to 999): each FOG gets as many as n times THICK by all THICK (cut), what is over 1 each to"
             + " the first ones that have any: how many a FOG gets (0, if none has any).");
         Doc.promise(25, "SHARE.");
+        shares("f1;", 7, 7);
+        shares("f0;f1;", 999, 0, 999);
         shares("f9;", 0, 0);
         shares("f9;", 1, 1);
         shares("f9;", 999, 999);
@@ -405,7 +415,10 @@ final class ForetoldSentences {
         Doc.promise(26, "TURNS (may be below 0).");
         // The other one would but hide SHIPS from the keeper: he does nothing, and the one pours at each turn.
         turn("l12,12,0;f0;g1;", 1, -1, 0, 0, 0, 0);
+        turn("l12,2,60;f0;g1;", 1, 0, 0, 0, 0, 0);
         turn("l12,0,0;f0;g5;", 1, 0, 0, 0, 0, 0);
+        // 10 in all are too few by 1, whatever the turns ahead had poured.
+        turn("l12,0,0;f0;g4;", 1, 0, 0, 0, 0, 0);
         turn("l12,0,1;f0;g4;", 1, 0, 0, 0, 1, 1);
         turn("l12,0,6;f0;g4;", 1, 0, 1, 1, 1, 1);
         turn("l12,0,15;f0;g1;", 20, 0, 0, 0, 1, 1);
@@ -452,6 +465,8 @@ final class ForetoldSentences {
         fairs(six, 6, 3, 729, 1000000);
         fairs(six, 6, 9, 531441, 1000000);
         fairs(six, 6, 10, 1, 1);
+        // The keeper just sees the gull, if THICK is 0 and not 1.
+        fairs(Run.lit("l12,3,60;f4;g3;"), 0, 3, 3, 10);
         // A FOG that is lifted or not, apart from the other one.
         Run two = Run.lit("l12,5,60;f3;f3;g2;");
         fairs(two, 0, 1, 1, 1);

@@ -159,6 +159,7 @@ final class Run {
     private List<String> look(Call... more) {
         List<String> seen = new ArrayList<>();
         seen.add(standing(twin(more)));
+        seen.add(foretold(twin(more)));
         seen.add(undone(twin(more)));
         seen.add(kept(twin(more)));
         for (int r = 0; r < 8; r++) {
@@ -188,6 +189,18 @@ final class Run {
             seen.append(p.call("thick", k)).append(' ').append(p.call("ship", k, 0)).append(' ');
             seen.append(p.call("kind", k)).append(' ');
         }
+        return seen.toString();
+    }
+
+    private static String foretold(Player p) {
+        StringBuilder seen = new StringBuilder();
+        for (int k = 0; k < 3; k++) {
+            seen.append(p.call("ahead", k, 5, 0)).append(' ').append(p.call("written", 5, k + 1)).append(' ');
+            seen.append(p.call("when", k, 1)).append(' ').append(p.call("pours", k, 9)).append(' ');
+        }
+        seen.append(p.call("quarrel", 0)).append(' ').append(p.call("lift", 9, 1)).append(' ');
+        seen.append(p.call("sent", 9, 1)).append(' ').append(p.call("byTurns", 2, 5)).append(' ');
+        seen.append(p.call("fair", 5, 3, 0)).append(' ').append(p.call("drawn", 9, 5, 0)).append(' ');
         return seen.toString();
     }
 

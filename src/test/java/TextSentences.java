@@ -29,6 +29,7 @@ final class TextSentences {
         fault3();
         lightReads();
         lightLeavesAllBehindAFault();
+        aShorterTextBehindALonger();
         faultTellsTheLatest();
     }
 
@@ -379,6 +380,29 @@ final class TextSentences {
         x.faulted("l4,0,0;f0;s0;s1;s", 17, 1);
         x.faulted(LONGEST + "s11;", 58, 3);
         x.faulted("l".repeat(120), 1, 1);
+    }
+
+    /** Behind a longer text its bytes must not be read on, nor what was read of it be told. */
+    private static void aShorterTextBehindALonger() {
+        Run x = Run.lit("l10,6,25;f4;f0;f6;s3;b7;m9;g0;o2;s0;");
+        x.faulted("l", 1, 1);
+        x.faulted("l1", 1, 2);
+        x.faulted("l10,6,2", 7, 1);
+        x.faulted("l10,6,25;f4;s3;b", 16, 1);
+        Run figures = new Run();
+        for (char c : "l4444".toCharArray()) {
+            figures.play("feed", c);
+        }
+        figures.is(-1000101, "light");
+        figures.faulted("l4", 2, 1);
+        Run told = Run.lit("l12,6,60;f4;s9;");
+        for (char c : "l4,0,0;f0;".toCharArray()) {
+            told.play("feed", c);
+        }
+        told.is(-1000110, "light");
+        told.is(4, "ahead", 0, 5, 0);
+        told.is(9, "when", 0, 0);
+        told.is(57, "written", 3, 3);
     }
 
     private static void faultTellsTheLatest() {
