@@ -4,12 +4,12 @@ import java.util.Random;
 
 /** Runs of calls drawn by fixed seeds, each answer against the model's: ordinary numbers, edges and wrong ones. */
 public final class ModelTest {
-    private static final String[] NAMES = {
+    static final String[] NAMES = {
         "row", "set", "copy", "drop", "feed", "light", "fault", "undo", "watches", "pour", "fog", "eyes", "move",
         "ship", "stand", "thick", "ahead", "written", "when", "quarrel", "pours", "lift", "sent", "share", "byTurns",
         "who", "fogs", "sights", "fair", "drawn", "image", "restore", "kind", "as", "ask", "trace", "count", "status"};
     /** The highest number as told, for each argument of each call. */
-    private static final int[][] HIGHEST = {
+    static final int[][] HIGHEST = {
         {7, 2, 40}, {7, 39, 255}, {7, 39, 7, 39, 40}, {7}, {255}, {}, {}, {}, {24}, {60}, {5, 9}, {12}, {5, 11},
         {5, 2}, {6}, {60}, {5, 60, 1}, {60, 3}, {5, 1}, {1}, {5, 30}, {30, 1}, {30, 1}, {5, 999}, {4, 20},
         {5, 1, 7, 39, 12}, {5, 5, 7, 39, 12}, {5, 2, 7, 39, 12}, {60, 10, 1}, {60, 999999, 1}, {1}, {1}, {5}, {5, 5},
@@ -43,7 +43,7 @@ public final class ModelTest {
         return got;
     }
 
-    private static long call(LampLogs x, String name, int[] a) {
+    static long call(LampLogs x, String name, int[] a) {
         return switch (name) {
             case "row" -> x.row(a[0], a[1], a[2]);
             case "set" -> x.set(a[0], a[1], a[2]);
